@@ -20,7 +20,7 @@ import java.util.regex.Pattern;
  * </pre>
  *
  * With each call, whatever it may not change (all, if it is refused or a question) is compared with
- * what it was before it.
+ * what it was before it, as long as the object has enough of its 512 calls left for that.
  */
 final class Sentences {
     private static final Map<String, Integer> WORDS = Map.of("BAD", -5001, "NONE", -5002, "DAMAGED", -5003,
