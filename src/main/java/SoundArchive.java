@@ -281,7 +281,8 @@ public final class SoundArchive {
             return BUSY;
         }
         int bits = bytesIn(slot) * 8;
-        // Without its sign bit, any place gives a remainder that is not below 0.
+        // The head byte keeps the divisor above 0, and without its sign bit any place gives a remainder
+        // that is not below 0.
         turnedBit[slot] = (place & 0x7fffffff) % bits;
         turnBit(slot);
         damaged[slot] = true;

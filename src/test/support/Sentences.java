@@ -90,7 +90,7 @@ final class Sentences {
         if (told.isEmpty()) {
             fault("all", "there is no test");
         }
-        System.out.println(told.size() + " boundary tests, " + wrong + " faults");
+        System.out.println("tests told as rows: " + told.size() + ", faults: " + wrong);
         System.exit(wrong == 0 ? 0 : 1);
     }
 
