@@ -145,10 +145,11 @@ public final class SoundArchive {
         if (!isSlot(slot)) {
             return BAD;
         }
-        for (int p = 0; p < momentsAtHand; p++) {
+        int moments = momentsAtHand;
+        for (int p = 0; p < moments; p++) {
             packMoment(slot, p, leftAtHand[p], rightAtHand[p]);
         }
-        setMomentsIn(slot, momentsAtHand);
+        setMomentsIn(slot, moments);
         filled[slot] = true;
         damaged[slot] = false;
         return 0;

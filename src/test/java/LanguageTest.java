@@ -19,8 +19,10 @@ import javax.tools.StandardJavaFileManager;
 import javax.tools.ToolProvider;
 
 /**
- * The rules of LANGUAGE.md, looked for in the tree that javac makes of the source. Where a rule is
- * hard to tell from a tree, what is asked here is narrower than the rule. Run at the project's root.
+ * The rules of LANGUAGE.md, but for 7 and 11, looked for in the tree that javac makes of the source.
+ * Where a rule is hard to tell from a tree, what is asked here is narrower than the rule: an array is
+ * a field and is only ever indexed, and each loop counts a local number up to a bound. Run at the
+ * project's root.
  */
 public final class LanguageTest {
     private static final Path SOURCE = Path.of("src/main/java/SoundArchive.java");
@@ -74,9 +76,33 @@ public final class LanguageTest {
         return names;
     }
 
+    private static Set<String> namesOfArrays(ClassTree type) {
+        Set<String> names = new HashSet<>();
+        for (Tree member : type.getMembers()) {
+            if (member instanceof VariableTree field && isArray(field.getType())) {
+                names.add(field.getName().toString());
+            }
+        }
+        return names;
+    }
+
+    /** The names of the methods that could change a field, and of the fields that could be changed. */
+    private static Set<String> namesOfObject(ClassTree type) {
+        Set<String> names = new HashSet<>();
+        for (Tree member : type.getMembers()) {
+            if (member instanceof VariableTree field && !isConstant(field)) {
+                names.add(field.getName().toString());
+            } else if (member instanceof MethodTree method && !method.getModifiers().getFlags().contains(Modifier.STATIC)) {
+                names.add(method.getName().toString());
+            }
+        }
+        return names;
+    }
+
     /** What may stand nowhere in the class, neither in its fields nor in its methods. */
     private static void checkWords(ClassTree type) {
         Set<String> names = declaredNames(type);
+        Set<String> arrays = namesOfArrays(type);
         new TreeScanner<Void, Void>() {
             @Override
             public Void scan(Tree tree, Void nothing) {
@@ -97,8 +123,15 @@ public final class LanguageTest {
             }
 
             @Override
+            public Void visitArrayAccess(ArrayAccessTree access, Void nothing) {
+                check(4, arrays.contains(access.getExpression().toString()), "an index on no field", access);
+                return scan(access.getIndex(), nothing);
+            }
+
+            @Override
             public Void visitIdentifier(IdentifierTree name, Void nothing) {
                 check(3, names.contains(name.getName().toString()), "a name from outside", name);
+                check(4, !arrays.contains(name.getName().toString()), "an array that is not indexed", name);
                 return super.visitIdentifier(name, nothing);
             }
         }.scan(type.getMembers(), null);
@@ -119,20 +152,29 @@ public final class LanguageTest {
                 && (array.getDimensions().get(0) instanceof LiteralTree || array.getDimensions().get(0).toString().matches("[A-Z_]+"));
     }
 
-    /** A counted loop: for (int p = ..; p < bound; p++), where the body sets neither p nor the bound. */
-    private static void checkLoop(ForLoopTree loop) {
+    /**
+     * A counted loop: for (int p = ..; p < bound; p++), where the body sets neither p nor the bound, and,
+     * if the bound is a field, calls no method that could.
+     */
+    private static void checkLoop(ForLoopTree loop, Set<String> ofObject) {
         String head = loop.toString().lines().findFirst().orElse("");
         boolean counted = head.matches("for \\(int (\\w+) = \\w+; \\1 < \\w+; \\1\\+\\+\\) \\{");
         check(8, counted, "a loop that is not counted", loop);
         if (counted) {
             BinaryTree condition = (BinaryTree) loop.getCondition();
             Set<String> fixed = Set.of(condition.getLeftOperand().toString(), condition.getRightOperand().toString());
-            checkFixed(loop, fixed);
+            checkFixed(loop, fixed, ofObject.contains(condition.getRightOperand().toString()) ? ofObject : Set.of());
         }
     }
 
-    private static void checkFixed(ForLoopTree loop, Set<String> fixed) {
+    private static void checkFixed(ForLoopTree loop, Set<String> fixed, Set<String> refused) {
         new TreeScanner<Void, Void>() {
+            @Override
+            public Void visitMethodInvocation(MethodInvocationTree call, Void nothing) {
+                check(8, !refused.contains(call.getMethodSelect().toString()), "could set the bound of its loop", call);
+                return super.visitMethodInvocation(call, nothing);
+            }
+
             @Override
             public Void visitAssignment(AssignmentTree set, Void nothing) {
                 check(8, !fixed.contains(set.getVariable().toString()), "set in its loop", set);
@@ -155,13 +197,19 @@ public final class LanguageTest {
     }
 
     /** Looks through a method, and answers the names of the methods that it calls. */
-    private static Set<String> checkMethod(MethodTree method) {
+    private static Set<String> checkMethod(MethodTree method, Set<String> ofObject) {
         Set<String> called = new TreeSet<>();
         boolean constructor = method.getReturnType() == null;
         check(2, constructor || isNumber(method.getReturnType()) || isVoid(method.getReturnType()), "the answer", method.getName());
         check(10, method.getParameters().size() <= 7, "more than seven parameters", method.getName());
         new TreeScanner<Void, Void>() {
             private int callsAround = 0;
+
+            @Override
+            public Void visitVariable(VariableTree variable, Void nothing) {
+                check(4, isNumber(variable.getType()), "an array that is no field", variable);
+                return super.visitVariable(variable, nothing);
+            }
 
             @Override
             public Void visitMethodInvocation(MethodInvocationTree call, Void nothing) {
@@ -181,7 +229,7 @@ public final class LanguageTest {
 
             @Override
             public Void visitForLoop(ForLoopTree loop, Void nothing) {
-                checkLoop(loop);
+                checkLoop(loop, ofObject);
                 return super.visitForLoop(loop, nothing);
             }
 
@@ -196,7 +244,7 @@ public final class LanguageTest {
                 check(8, false, "a loop that is not counted", loop);
                 return super.visitDoWhileLoop(loop, nothing);
             }
-        }.scan(method.getBody(), null);
+        }.scan(method, null);
         return called;
     }
 
@@ -210,6 +258,7 @@ public final class LanguageTest {
 
     private static void checkMembers(ClassTree type) {
         Map<String, Set<String>> calls = new TreeMap<>();
+        Set<String> ofObject = namesOfObject(type);
         int fields = 0;
         for (Tree member : type.getMembers()) {
             if (member instanceof VariableTree field) {
@@ -217,7 +266,7 @@ public final class LanguageTest {
                 fields += isConstant(field) ? 0 : 1;
             } else if (member instanceof MethodTree method) {
                 // One name, one method: so no private one bears the name of a public one.
-                check(1, calls.put(method.getName().toString(), checkMethod(method)) == null, "a name twice", method.getName());
+                check(1, calls.put(method.getName().toString(), checkMethod(method, ofObject)) == null, "a name twice", method.getName());
             } else {
                 check(1, false, "no field and no method", member);
             }
